@@ -83,11 +83,12 @@ public final class PromisesTest {
         d.due("row, least", x.row(7, 0, Integer.MIN_VALUE), SIZE);
         d.due("row, BAD ahead of SIZE", x.row(8, 0, -1), BAD);
         d.due("row is as it was", x.set(7, 39, 70000), 70000);
+        d.due("row is as it was", x.set(7, 0, -70000), -70000);
         d.due("row in place of another", x.row(7, 2, 40), 40);
-        d.due("items are 0 at first", x.copy(7, 39, 7, 0, 1), 1);
         d.due("a row in place of what is there is one row", x.count(0), 2);
         Due.read(x, "e0,0;g0,1,1,0;");
-        d.due("old items are gone", x.who(0, 7, 39, 1), 4);
+        d.due("items are 0 at first: the first", x.who(0, 7, 0, 1), 4);
+        d.due("items are 0 at first: the last", x.who(0, 7, 39, 1), 4);
     }
 
     private static void promise3Set() {
@@ -554,6 +555,7 @@ public final class PromisesTest {
         d.due("no land", new EscrowLand().round(), STATE);
         d.due("seasons", Due.told("e0,0;s30,5,1,0;").round(), 14);
         d.due("what grows", Due.told("e0,0;s30,5,1,0;g1,1,1,0;").round(), NONE);
+        d.due("what grows is the first", Due.told("e0,0;g1,1,1,0;s30,5,1,0;").round(), NONE);
         d.due("a widow by 7 at 0", Due.told("e0,0;w0,7,1,0;").round(), 14);
         d.due("a widow by 3 at 0: 14 and 3", Due.told("e0,0;w0,3,1,0;").round(), 42);
         d.due("a widow by 9 at 0: 126 is too far", Due.told("e0,0;w0,9,1,0;").round(), NONE);
@@ -645,6 +647,7 @@ public final class PromisesTest {
         d.due("n 10", x.odds(0, 5, 10, 0), BAD);
         d.due("n -1", x.odds(0, 5, -1, 0), BAD);
         d.due("what 2, ahead of STATE", x.odds(2, 5, 1, 2), BAD);
+        d.due("what -1", x.odds(0, 5, 1, -1), BAD);
         d.due("thing 5", x.odds(5, 5, 1, 0), BAD);
     }
 
@@ -665,6 +668,7 @@ public final class PromisesTest {
         d.due("n 0", x.store(0), BAD);
         d.due("n 61", x.store(61), BAD);
         d.due("nothing changed", x.thing(1, 0), 11);
+        d.due("the first thing falls", Due.told("e0,9;f20,1,2,0;").store(3), 6);
         d.due("nothing falls", Due.told("e0,9;g0,9,9,0;s9,9,9,0;p9,1,9,1;").store(60), 0);
     }
 
@@ -687,6 +691,9 @@ public final class PromisesTest {
         d.due("what 2", x.drawn(1, 1, 2), BAD);
         d.due("what -1", x.drawn(1, 1, -1), BAD);
         d.due("not off: nothing to pay", Due.told("e0,9;g10,1,2,0;").drawn(1, 1, 0), 0);
+        EscrowLand p = Due.told("e0,1;p5,1,1,0;");
+        d.due("no person is put back: cost", p.drawn(3, 1, 0), 0);
+        d.due("no person is put back: off", p.drawn(3, 1, 1), 3);
         d.due("nothing changed", x.count(2), 0);
         x.days(2);
         d.due("off now", x.drawn(0, 5, 1), 2);
@@ -764,6 +771,7 @@ public final class PromisesTest {
         asked(x, 4, 0, -192, 14, 13, 10);
         asked(x, 4, 1, 196, 23, 20, 14, 13, 10);
         d.due("ask(0, 2)", x.ask(0, 2), BAD);
+        d.due("ask(0, -1)", x.ask(0, -1), BAD);
         d.due("ask(5, 0)", x.ask(5, 0), BAD);
         d.due("what is refused leaves the trace", x.trace(0), 23);
         d.due("trace(-1)", x.trace(-1), NONE);
