@@ -852,17 +852,16 @@ public final class EscrowLand {
 
         /**
          * By the day of the latest putting back (0: none yet), for all that comes later depends on that alone. The
-         * days come first to last, so the bits of the later days, which weigh more, are the same for all that meet
-         * there: the least bits so far stay the least.
+         * days come first to last, and a later one weighs more than all before it: of several ways that meet and
+         * cost the same, the one found first has the least bits.
          */
         void planPutBacks(int thing, int n) {
-            for (int d = 0; d <= n; d++) {
+            for (int d = 1; d <= n; d++) {
                 costSoFar[d] = TOO_MUCH;
-                bitsSoFar[d] = 0;
             }
             costSoFar[0] = 0;
+            bitsSoFar[0] = 0;
             leastCost = TOO_MUCH;
-            leastBits = 0;
             for (int d = 0; d <= n; d++) {
                 goOnFrom(d, thing, n);
             }
@@ -873,23 +872,18 @@ public final class EscrowLand {
             for (int d = latest + 1; d <= n; d++) {
                 itIs = land.dayOn(thing, itIs, land.day + d - 1);
                 int cost = costSoFar[latest] + land.costToPutBack(thing, itIs);
-                int bits = bitsSoFar[latest] | 1 << (d - 1);
-                if (isBetter(cost, bits, costSoFar[d], bitsSoFar[d])) {
+                if (cost < costSoFar[d]) {
                     costSoFar[d] = cost;
-                    bitsSoFar[d] = bits;
+                    bitsSoFar[d] = bitsSoFar[latest] | 1 << (d - 1);
                 }
                 if (land.offIf(thing, itIs) > land.may) {
                     return;
                 }
             }
-            if (isBetter(costSoFar[latest], bitsSoFar[latest], leastCost, leastBits)) {
+            if (costSoFar[latest] < leastCost) {
                 leastCost = costSoFar[latest];
                 leastBits = bitsSoFar[latest];
             }
-        }
-
-        private static boolean isBetter(int cost, int bits, int thanCost, int thanBits) {
-            return cost < thanCost || cost == thanCost && bits < thanBits;
         }
 
         void planPlaces() {
