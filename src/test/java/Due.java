@@ -1,5 +1,5 @@
 /** What the project's tests share: a count of the answers that are not as due, and lands told in a text. */
-final class Due {
+final class Due implements Answers {
     private int asked = 0;
     private int wrong = 0;
 
@@ -13,6 +13,27 @@ final class Due {
 
     void holds(String what, boolean so) {
         due(what, so ? 1 : 0, 1);
+    }
+
+    /** A text with a fault, on a new object: its place, its number, and that no land is read. */
+    void faulty(String text, int place, int fault) {
+        EscrowLand x = new EscrowLand();
+        due("land() of " + text, read(x, text), FAULTY - place);
+        due("fault() of " + text, x.fault(), fault);
+        due("no land of " + text, x.count(1), 0);
+        due("the tape of " + text, x.count(5), 0);
+    }
+
+    /** An ask, its answer, and the whole trace with nothing ahead of it and behind it. */
+    void asked(EscrowLand x, int one, int what, int answer, int... bodies) {
+        String call = "ask(" + one + ", " + what + ")";
+        due(call, x.ask(one, what), answer);
+        for (int i = 0; i < bodies.length; i++) {
+            due(call + ", trace(" + i + ")", x.trace(i), bodies[i]);
+        }
+        for (int i : new int[] {LEAST, -1, bodies.length, 15, 16, 17, MOST}) {
+            due(call + ", trace(" + i + ")", x.trace(i), NONE);
+        }
     }
 
     boolean isAllRight() {
@@ -39,6 +60,13 @@ final class Due {
             throw new IllegalStateException("a text with a fault: " + text);
         }
         return land;
+    }
+
+    /** More days than one call takes. */
+    static void pass(EscrowLand land, int days) {
+        for (int left = days; left > 0; left -= 24) {
+            land.days(Math.min(left, 24));
+        }
     }
 
     static void fill(EscrowLand land, int row, int lane, int... items) {

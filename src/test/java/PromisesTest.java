@@ -1,9 +1,5 @@
 /** Each promise of the document by answers worked out by hand: ordinary inputs, the edges, wrong inputs. */
-public final class PromisesTest {
-    private static final int NONE = -1000000, BAD = -1000001, STATE = -1000002, FULL = -1000003;
-    private static final int NULL = -1000011, PLACE = -1000012, KIND = -1000013, SIZE = -1000014, STORE = -1000015;
-    private static final int FAULTY = -1000100;
-
+public final class PromisesTest implements Answers {
     /**
      * MAY 2, FEE 3. Behind the days 1 to 8 these are: g 12 14 16 18 20 22 24 26; f 17 14 11 8 5 2 0 0; s 35 30 and
      * so on; p 40 41 41 42 42 43 43 44; w 50 50 50 51 51 51 47 48; all off 10 11 21 23 33 34 45 42.
@@ -166,57 +162,49 @@ public final class PromisesTest {
         d.due("count(5), read", x.count(5), 0);
     }
 
-    private static void faulty(String text, int place, int fault) {
-        EscrowLand x = new EscrowLand();
-        d.due("land() of " + text, Due.read(x, text), FAULTY - place);
-        d.due("fault() of " + text, x.fault(), fault);
-        d.due("no land of " + text, x.count(1), 0);
-        d.due("the tape of " + text, x.count(5), 0);
-    }
-
     private static void promise7LandIsRead() {
         d.due("one thing", Due.read(new EscrowLand(), "e0,0;g0,1,1,0;"), 1);
         d.due("the greatest numbers", Due.read(new EscrowLand(), "e9,20;w60,9,9,1;"), 1);
         d.due("two figures with a 0 ahead", Due.read(new EscrowLand(), "e09,00;p00,01,01,01;"), 1);
         d.due("six things", Due.read(new EscrowLand(),
             "e0,0;g0,1,1,0;f0,1,1,0;s0,1,1,0;p0,1,1,0;w0,1,1,0;g0,1,1,0;"), 6);
-        faulty("", 0, 1);
-        faulty("E0,0;g0,1,1,0;", 0, 1);
-        faulty("g0,1,1,0;", 0, 1);
-        faulty("e,0;g0,1,1,0;", 1, 1);
-        faulty("e100,0;g0,1,1,0;", 1, 1);
-        faulty("e0000,0;g0,1,1,0;", 1, 1);
-        faulty("e10,0;g0,1,1,0;", 1, 2);
-        faulty("e0;g0,1,1,0;", 2, 1);
-        faulty("e0,21;g0,1,1,0;", 3, 2);
-        faulty("e0,0,g0,1,1,0;", 4, 1);
-        faulty("e0,0;", 5, 1);
-        faulty("e0,0; g0,1,1,0;", 5, 1);
-        faulty("e0,0;e0,0;", 5, 1);
-        faulty("e0,0;g61,1,1,0;", 6, 2);
-        faulty("e0,0;gg0,1,1,0;", 6, 1);
-        faulty("e0,0;g0,0,1,0;", 8, 2);
-        faulty("e0,0;g0,10,1,0;", 8, 2);
-        faulty("e0,0;g0,1,0,0;", 10, 2);
-        faulty("e0,0;g0,1,10,0;", 10, 2);
-        faulty("e0,0;g0,1,1,2;", 12, 2);
-        faulty("e0,0;g0,1,1,0", 13, 1);
-        faulty("e0,0;g0,1,1,0,", 13, 1);
-        faulty("e0,0;g0,1,1,0;7", 14, 1);
-        faulty("e0,0;g0,1,1,0;g", 15, 1);
-        faulty("e0,0;g0,1,1,0;g123", 15, 1);
+        d.faulty("", 0, 1);
+        d.faulty("E0,0;g0,1,1,0;", 0, 1);
+        d.faulty("g0,1,1,0;", 0, 1);
+        d.faulty("e,0;g0,1,1,0;", 1, 1);
+        d.faulty("e100,0;g0,1,1,0;", 1, 1);
+        d.faulty("e0000,0;g0,1,1,0;", 1, 1);
+        d.faulty("e10,0;g0,1,1,0;", 1, 2);
+        d.faulty("e0;g0,1,1,0;", 2, 1);
+        d.faulty("e0,21;g0,1,1,0;", 3, 2);
+        d.faulty("e0,0,g0,1,1,0;", 4, 1);
+        d.faulty("e0,0;", 5, 1);
+        d.faulty("e0,0; g0,1,1,0;", 5, 1);
+        d.faulty("e0,0;e0,0;", 5, 1);
+        d.faulty("e0,0;g61,1,1,0;", 6, 2);
+        d.faulty("e0,0;gg0,1,1,0;", 6, 1);
+        d.faulty("e0,0;g0,0,1,0;", 8, 2);
+        d.faulty("e0,0;g0,10,1,0;", 8, 2);
+        d.faulty("e0,0;g0,1,0,0;", 10, 2);
+        d.faulty("e0,0;g0,1,10,0;", 10, 2);
+        d.faulty("e0,0;g0,1,1,2;", 12, 2);
+        d.faulty("e0,0;g0,1,1,0", 13, 1);
+        d.faulty("e0,0;g0,1,1,0,", 13, 1);
+        d.faulty("e0,0;g0,1,1,0;7", 14, 1);
+        d.faulty("e0,0;g0,1,1,0;g", 15, 1);
+        d.faulty("e0,0;g0,1,1,0;g123", 15, 1);
     }
 
     private static void promise7And8FirstFaultWins() {
-        faulty("e10,21;z", 1, 2);
-        faulty("e0,21;z", 3, 2);
+        d.faulty("e10,21;z", 1, 2);
+        d.faulty("e0,21;z", 3, 2);
         String six = "e0,0;g0,1,1,0;f0,1,1,0;s0,1,1,0;p0,1,1,0;w0,1,1,0;g0,1,1,0;";
-        faulty(six + "w", six.length(), 3);
-        faulty(six + "p999", six.length(), 3);
-        faulty(six + "z", six.length(), 1);
-        faulty(six + "e", six.length(), 1);
-        faulty(six + ";", six.length(), 1);
-        faulty("e0,0;g61,1,1,0;f0,1,1,0;s0,1,1,0;p0,1,1,0;w0,1,1,0;g0,1,1,0;g", 6, 2);
+        d.faulty(six + "w", six.length(), 3);
+        d.faulty(six + "p999", six.length(), 3);
+        d.faulty(six + "z", six.length(), 1);
+        d.faulty(six + "e", six.length(), 1);
+        d.faulty(six + ";", six.length(), 1);
+        d.faulty("e0,0;g61,1,1,0;f0,1,1,0;s0,1,1,0;p0,1,1,0;w0,1,1,0;g0,1,1,0;g", 6, 2);
     }
 
     private static void promise7NewLandStandsInPlace() {
@@ -760,32 +748,23 @@ public final class PromisesTest {
 
     private static void promise34And35AskAndTrace() {
         EscrowLand x = Due.told(FIVE);
-        asked(x, 0, 0, 12, 11, 10, 21, 20);
-        asked(x, 0, 1, 10, 21, 20);
-        asked(x, 1, 0, -45, 12, 11, 10, 24, 21, 20);
-        asked(x, 1, 1, 42, 24, 21, 20);
-        asked(x, 2, 0, -963, 11, 10, 22, 21, 20);
-        asked(x, 2, 1, -968, 22, 21, 20);
-        asked(x, 3, 0, -98, 13, 10);
-        asked(x, 3, 1, 101, 23, 20, 13, 10);
-        asked(x, 4, 0, -192, 14, 13, 10);
-        asked(x, 4, 1, 196, 23, 20, 14, 13, 10);
+        d.asked(x, 0, 0, 12, 11, 10, 21, 20);
+        d.asked(x, 0, 1, 10, 21, 20);
+        d.asked(x, 1, 0, -45, 12, 11, 10, 24, 21, 20);
+        d.asked(x, 1, 1, 42, 24, 21, 20);
+        d.asked(x, 2, 0, -963, 11, 10, 22, 21, 20);
+        d.asked(x, 2, 1, -968, 22, 21, 20);
+        d.asked(x, 3, 0, -98, 13, 10);
+        d.asked(x, 3, 1, 101, 23, 20, 13, 10);
+        d.asked(x, 4, 0, -192, 14, 13, 10);
+        d.asked(x, 4, 1, 196, 23, 20, 14, 13, 10);
         d.due("ask(0, 2)", x.ask(0, 2), BAD);
         d.due("ask(0, -1)", x.ask(0, -1), BAD);
         d.due("ask(5, 0)", x.ask(5, 0), BAD);
         d.due("what is refused leaves the trace", x.trace(0), 23);
         d.due("trace(-1)", x.trace(-1), NONE);
         x.days(1);
-        asked(x, 0, 1, 12, 21, 20);
-    }
-
-    private static void asked(EscrowLand x, int one, int what, int answer, int... bodies) {
-        String call = "ask(" + one + ", " + what + ")";
-        d.due(call, x.ask(one, what), answer);
-        for (int i = 0; i < bodies.length; i++) {
-            d.due(call + ", trace(" + i + ")", x.trace(i), bodies[i]);
-        }
-        d.due(call + ", trace's end", x.trace(bodies.length), NONE);
+        d.asked(x, 0, 1, 12, 21, 20);
     }
 
     private static void promise36Count() {
